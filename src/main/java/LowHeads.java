@@ -1009,10 +1009,12 @@ public final class LowHeads {
         private final House house;
         private final Scene scene;
         private final int[] order = new int[MOST_PERSONS];
+        private final int[] likeAhead = new int[MOST_PLACES];
         private final int[] sums = new int[2 * MOST_ROOMS * ALL_SETS];
         private final int[] inchesThen = new int[MOST_PERSONS];
         private int guests;
         private int room;
+        private int lowestFloor;
         private boolean placesCount;
         private int best;
 
@@ -1081,6 +1083,7 @@ public final class LowHeads {
             best = NO_CHOICE;
             room = r;
             orderByAge(set);
+            lookAtFloors();
             if (guests > house.placesOf(r)) {
                 return false;
             }
@@ -1102,24 +1105,56 @@ public final class LowHeads {
             }
         }
 
+        /** Where only sums count, of free places with like floors the first stands for all. */
+        private void lookAtFloors() {
+            lowestFloor = house.floorAt(room, 0);
+            for (int i = 0; i < house.placesOf(room) && i < MOST_PLACES; i++) {
+                lowestFloor = Math.min(lowestFloor, house.floorAt(room, i));
+                likeAhead[i] = 0;
+                for (int j = 0; j < i && !placesCount; j++) {
+                    if (house.floorAt(room, j) == house.floorAt(room, i)) {
+                        likeAhead[i] |= 1 << j;
+                    }
+                }
+            }
+        }
+
         private void placeFrom(int k, int limit, int taken, int choice) {
             if (k >= guests || k >= MOST_PERSONS) {
                 best = choice;
                 return;
             }
             int p = order[k];
-            for (int i = 0; i < house.placesOf(room); i++) {
+            for (int i = 0; i < house.placesOf(room) && i < MOST_PLACES; i++) {
+                if ((taken >> i & 1) != 0 || (likeAhead[i] & ~taken) != 0) {
+                    continue;
+                }
                 int tall = house.floorAt(room, i) + scene.inches[p];
                 int bend = k == 0 ? 0 : Math.max(0, tall - limit);
-                if ((taken >> i & 1) != 0 || bend > house.knees[p]) {
+                if (bend > house.knees[p]) {
                     continue;
                 }
                 int next = choice + (bend << BITS_OF_PLACES) + (placesCount ? i << shiftOf(p) : 0);
-                if (next < best) {
-                    int nextLimit = k == 0 ? tall : limitBehind(limit, tall);
+                int nextLimit = k == 0 ? tall : limitBehind(limit, tall);
+                int rest = leastOfRest(k + 1, nextLimit);
+                if (rest != NONE && next + (rest << BITS_OF_PLACES) < best) {
                     placeFrom(k + 1, nextLimit, taken | 1 << i, next);
                 }
             }
+        }
+
+        /** What those behind must bend if all had the lowest floor; NONE: one could not even then. */
+        private int leastOfRest(int k, int limit) {
+            int sum = 0;
+            for (int j = k; j < guests && j < MOST_PERSONS; j++) {
+                int p = order[j];
+                int bend = Math.max(0, lowestFloor + scene.inches[p] - limit);
+                if (bend > house.knees[p]) {
+                    return NONE;
+                }
+                sum += bend;
+            }
+            return sum;
         }
 
         private int limitBehind(int limit, int tall) {

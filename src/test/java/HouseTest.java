@@ -146,6 +146,8 @@ public final class HouseTest {
     private static void fault() {
         isFault("roo", 1, 0);
         isFault("rooms 1;", 1, 0);
+        isFault("rooma 1;", 1, 0);
+        isFault("roomz 1;", 1, 0);
         isFault("  Room 1;", 1, 2);
         isFault("ro om 1;", 1, 0);
         isFault(";", 1, 0);

@@ -134,6 +134,11 @@ public final class PartiesTest {
         Check.due("19 nobody", x.cuts(0, 0), 0);
         Check.due("19 one", x.cuts(1, 8), 0);
         Check.due("19 not so many places", x.cuts(1, 3), LowHeads.NONE);
+        LowHeads six = Check.housed("room 0,0,0,0,0,0;person 60 50 0 0;person 10 51 0 0;person 20 52 0 0;"
+            + "person 30 53 1 0;person 40 54 1 0;person 50 55 1 0;");
+        Check.due("19 six", six.cuts(0, 63), 1 + 2 + 2 + 3 + 4);
+        x.put(0, 0, 3);
+        Check.due("19 who is there now does not count", x.cuts(0, 14), 25);
         LowHeads y = Check.housed("room 40,0;person 10 90 0 0;person 90 20 40 0;");
         Check.due("19 below 0", y.cuts(0, 3), 110);
         Check.refused("19 no room", PartiesTest::made, z -> z.cuts(2, 1), LowHeads.UNKNOWN);
@@ -194,7 +199,10 @@ public final class PartiesTest {
 
     private static void seenAges() {
         Check.due("21 nobody can be older than 99", suspects(99, 50, 10, true), 1);
-        Check.due("21 nobody can be younger than 0", suspects(50, 0, 10, true), 2);
+        Check.due("21 99 is an age", suspects(98, 50, 10, true), 3);
+        Check.due("21 0 is an age", suspects(50, 1, 10, false), 3);
+        Check.due("21 one year between the others", suspects(50, 2, 0, true), 3);
+        Check.due("21 nobody can be younger than 0", suspects(50, 0, 10, false), 2);
         Check.due("21 an age of somebody there", suspects(50, 1, 0, true), 2);
         Check.due("21 an age of somebody elsewhere", suspects(50, 1, 0, false), 3);
         LowHeads x = Check.housed("room 0,0;person 90 60 9 0;person 50 61 9 0;");
@@ -214,8 +222,12 @@ public final class PartiesTest {
         Check.due("21 law 0", x.seen(0, 0), 0);
         x.law(1);
         Check.due("21 law 1: between the others", x.seen(0, 0), 6);
-        x.bend(2, 0);
-        x.bend(1, 0);
         Check.due("21 law 1: heels", x.seen(0, 1), 0);
+        LowHeads y = Check.housed("room 0,0,0;person 10 51 9 0;person 70 60 9 0;person 40 50 9 0;");
+        y.law(1);
+        for (int p = 0; p < 3; p++) {
+            y.put(p, 0, p);
+        }
+        Check.due("21 law 1: the first of heels", y.seen(0, 1), 1);
     }
 }

@@ -11,6 +11,7 @@ public final class WhereTest {
         bend();
         first();
         bow();
+        bowOfSix();
         year();
         come();
         comeMovesTheEldestFirst();
@@ -132,6 +133,23 @@ public final class WhereTest {
         bends(x, "14 two", 0, 0, 0, 10);
         Check.refused("14 no room", WhereTest::made, y -> y.bow(2), LowHeads.UNKNOWN);
         Check.refused("14 no room -1", WhereTest::made, y -> y.bow(-1), LowHeads.UNKNOWN);
+    }
+
+    private static void bowOfSix() {
+        LowHeads x = Check.housed("room 0,5,10,15,20,25;person 60 50 0 0;person 10 50 9 0;person 20 45 40 0;"
+            + "person 30 40 40 0;person 40 35 40 0;person 50 26 40 0;");
+        int[] places = {0, 5, 2, 3, 4, 1};
+        for (int p = 0; p < 6; p++) {
+            x.put(p, 0, places[p]);
+        }
+        Check.due("14 six, first by law 0", x.first(0, 0), 1);
+        Check.due("14 six, by law 0", x.bow(0), 2);
+        bends(x, "14 six, by law 0", 0, 9, 5, 5, 5, 0);
+        x.law(1);
+        Check.due("14 six, by law 1", x.bow(0), 2);
+        bends(x, "14 six, by law 1", 0, 9, 24, 24, 24, 0);
+        Check.due("14 six, who is too high still", x.first(0, 0), 1);
+        Check.due("14 six, by how much", x.first(0, 1), 35);
     }
 
     private static void year() {
