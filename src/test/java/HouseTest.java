@@ -134,6 +134,13 @@ public final class HouseTest {
         Check.due("3 seed stays", x.seed(0), 77);
         Check.due("3 ages as told", x.person(2, 0), 12);
         Check.due("3 inches as told", x.person(2, 1), 50);
+        Check.fed(x, "room 3;person 70 60 5 0;person 40 66 8 0;person 12 50 20 3;");
+        Check.due("3 a smaller house", x.house(), 3);
+        Check.due("3 one room less", x.room(1, LowHeads.NONE, 0), LowHeads.UNKNOWN);
+        Check.due("3 nobody comes to it", x.put(0, 1, 0), LowHeads.UNKNOWN);
+        Check.due("3 one person less", x.person(3, 0), LowHeads.UNKNOWN);
+        Check.due("3 no friends now", x.friends(0, 2), 0);
+        Check.due("3 no friends now", x.told(2), 0);
     }
 
     private static void isFault(String text, int number, int at) {

@@ -123,6 +123,11 @@ public final class PartiesTest {
         Check.fed(x, "room 0,0,0;person 50 60 9 0;person 9 58 9 0;person 10 59 9 2;");
         x.house();
         Check.due("18 other ages", x.feast(7, LowHeads.NONE), 0);
+        Check.fed(x, "room 0,0;person 10 59 9 2;person 50 60 9 0;");
+        x.house();
+        Check.due("18 a child", x.feast(3, LowHeads.NONE), 0);
+        x.year(3);
+        Check.due("18 the first of all has grown", x.feast(3, LowHeads.NONE), 5);
     }
 
     private static void cuts() {
@@ -137,8 +142,8 @@ public final class PartiesTest {
         LowHeads six = Check.housed("room 0,0,0,0,0,0;person 60 50 0 0;person 10 51 0 0;person 20 52 0 0;"
             + "person 30 53 1 0;person 40 54 1 0;person 50 55 1 0;");
         Check.due("19 six", six.cuts(0, 63), 1 + 2 + 2 + 3 + 4);
-        x.put(0, 0, 3);
-        Check.due("19 who is there now does not count", x.cuts(0, 14), 25);
+        x.put(1, 0, 0);
+        Check.due("19 who is there now does not count", x.cuts(0, 12), 0);
         LowHeads y = Check.housed("room 40,0;person 10 90 0 0;person 90 20 40 0;");
         Check.due("19 below 0", y.cuts(0, 3), 110);
         Check.refused("19 no room", PartiesTest::made, z -> z.cuts(2, 1), LowHeads.UNKNOWN);
