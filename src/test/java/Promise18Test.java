@@ -20,6 +20,7 @@ public final class Promise18Test {
         byLaw();
         asGrown();
         asAllHaveGrown();
+        asOldAsTallBefore();
         anotherHouse();
         whoIsThereNow();
         unknown();
@@ -179,6 +180,14 @@ public final class Promise18Test {
         Check.due("18 all have grown", x.feast(63, NO), 10);
         x.year(1);
         Check.due("18 all have grown again", x.feast(63, NO), 20);
+    }
+
+    /** Ten years later all ages are what the inches were when the first feast was asked for. */
+    private static void asOldAsTallBefore() {
+        LowHeads x = Check.housed("room 0,0;person 10 20 40 9;person 60 70 0 0;");
+        Check.due("18 now", x.feast(3, NO), 0);
+        x.year(10);
+        Check.due("18 the child is 90 inches", x.feast(3, NO), 20);
     }
 
     /** What was found for one house says nothing of the next, whatever is alike in both. */
